@@ -565,8 +565,9 @@ public final class PlanarOverlay {
         ringCount = 0;
         longestRing = 0;
         ringCorners = 0;
-        for (int j = 0; j < SIDE; j++) {
-            for (int i = 0; i < SIDE; i++) {
+        // Every ring has level edges, so none is missed by beginning at these alone.
+        for (int j = 0; j < SIDE; j += 2) {
+            for (int i = 1; i < SIDE; i += 2) {
                 if (has(ASIDE, i, j)) {
                     int edges = walkRing(layer, i, j);
                     ringCount++;
@@ -585,11 +586,11 @@ public final class PlanarOverlay {
         }
     }
 
-    /** Takes the edges of one ring away from those set aside, counts its corners, answers its length. */
+    /** Takes the ring of a level edge away from those set aside, counts its corners, answers its length. */
     private int walkRing(int layer, int firstI, int firstJ) {
         int i = firstI;
         int j = firstJ;
-        int direction = directionOf(layer, i, j);
+        int direction = has(layer, i, j + 1) ? EAST : WEST;
         int edges = 0;
         while (edges < ATOMS && has(ASIDE, i, j)) {
             write(ASIDE, i, j, false);
@@ -601,13 +602,6 @@ public final class PlanarOverlay {
             direction = next;
         }
         return edges;
-    }
-
-    private int directionOf(int layer, int i, int j) {
-        if ((i & 1) == 1) {
-            return has(layer, i, j + 1) ? EAST : WEST;
-        }
-        return has(layer, i - 1, j) ? NORTH : SOUTH;
     }
 
     /** Keeps to the cell on the left as long as that can be: so rings that meet in a point part there. */

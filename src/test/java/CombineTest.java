@@ -8,6 +8,7 @@ public final class CombineTest {
         twoAreas();
         areaAndLine();
         linesAndPoints();
+        alongTheRim();
         intoOneOfThem();
         refused();
         coversAnswers();
@@ -74,6 +75,33 @@ public final class CombineTest {
         p.combine(2, 1, 0, 5);
         due.measures("points without line", p, 5, 0, 0, 0, 0, 1, 0);
         due.is("the other point", p.nearest(5, 7, 7), 0);
+    }
+
+    private static void alongTheRim() {
+        int[][] lines = {{0, 0, 12, 0}, {0, 0, 0, 12}, {12, 0, 12, 12}, {0, 12, 12, 12}};
+        int[][] cuts = {{4, 0, 5, 0}, {0, 4, 0, 5}, {12, 4, 12, 5}, {4, 12, 5, 12}};
+        for (int n = 0; n < 4; n++) {
+            PlanarOverlay o = new PlanarOverlay();
+            Shapes.line(o, 0, lines[n]);
+            Shapes.line(o, 1, cuts[n]);
+            combineAll(o, 0, 1);
+            due.same("a line of the rim with a part of it", o, 2, 0);
+            due.same("a part of a line of the rim", o, 3, 1);
+            due.measures("a line of the rim, cut", o, 4, 0, 11, 0, 4, 2, 0);
+            due.same("a line of the rim, cut as well", o, 5, 4);
+        }
+        PlanarOverlay p = new PlanarOverlay();
+        int[] ends = {0, 12};
+        for (int x : ends) {
+            for (int y : ends) {
+                p.point(0, x, y);
+            }
+        }
+        combineAll(p, 0, 0);
+        due.same("corners of the square, union", p, 2, 0);
+        due.same("corners of the square, intersection", p, 3, 0);
+        due.is("corners of the square without themselves", p.measure(4, 4), 0);
+        due.is("corners of the square in exactly one", p.measure(5, 4), 0);
     }
 
     private static void intoOneOfThem() {

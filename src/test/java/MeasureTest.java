@@ -8,6 +8,7 @@ public final class MeasureTest {
         holes();
         holesThatMeetInAPoint();
         cutOffAtTheRim();
+        openToTheRim();
         lines();
         mixed();
         refused();
@@ -103,6 +104,23 @@ public final class MeasureTest {
         due.is("a notch from above", o.measure(2, 5), 0);
     }
 
+    /** What lies outside of the lines has one edge of the rim alone, or none if that is drawn too. */
+    private static void openToTheRim() {
+        int[][] lines = {
+            {3, 0, 3, 1, 4, 1, 4, 0}, {0, 3, 1, 3, 1, 4, 0, 4},
+            {3, 12, 3, 11, 4, 11, 4, 12}, {12, 3, 11, 3, 11, 4, 12, 4}};
+        for (int[] xy : lines) {
+            PlanarOverlay o = new PlanarOverlay();
+            Shapes.line(o, 0, xy);
+            due.measures("open to the rim", o, 0, 0, 3, 0, 2, 1, 0);
+            Shapes.line(o, 0, xy[0], xy[1], xy[6], xy[7]);
+            due.measures("closed by the rim", o, 0, 0, 4, 0, 0, 1, 1);
+            o.combine(2, 0, 0, 0);
+            Shapes.line(o, 0, xy[0], xy[1], xy[6], xy[7]);
+            due.measures("an edge of the rim", o, 0, 0, 1, 0, 2, 1, 0);
+        }
+    }
+
     private static void lines() {
         PlanarOverlay o = new PlanarOverlay();
         o.point(0, 3, 3);
@@ -126,6 +144,11 @@ public final class MeasureTest {
         Shapes.area(o, 0, 2, 2, 5, 5);
         Shapes.line(o, 0, 0, 3, 12, 3, 12, 5);
         due.measures("a line across an area", o, 0, 9, 11, 12, 14, 1, 0, 1, 12, 4);
+        Shapes.line(o, 3, 2, 2, 5, 2);
+        Shapes.line(o, 3, 0, 4, 9, 4);
+        Shapes.line(o, 3, 4, 0, 4, 9);
+        Shapes.area(o, 3, 2, 2, 6, 6);
+        due.measures("lines from all sides of an area", o, 3, 16, 10, 16, 20, 1, 0, 1, 16, 4);
         Shapes.line(o, 1, 2, 2, 5, 2);
         Shapes.area(o, 1, 2, 2, 5, 5);
         due.is("a line along the rim is no line any more", o.measure(1, 1), 0);

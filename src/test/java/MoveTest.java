@@ -11,6 +11,7 @@ public final class MoveTest {
         shrinkingAtTheRim();
         shrinkingIsRefused();
         turning();
+        turningAtTheRim();
         turningIsRefused();
         due.end();
     }
@@ -148,6 +149,20 @@ public final class MoveTest {
             due.same("turned back by " + how, o, 0, 1);
             due.yes("turn an empty layer", o.turn(5, how));
             due.is("nothing comes of it", o.measure(5, 4), 0);
+        }
+    }
+
+    private static void turningAtTheRim() {
+        int[][] tos = {{12, 3, 12, 0, 5, 0}, {0, 9, 0, 12, 7, 12}, {3, 0, 0, 0, 0, 7}};
+        for (int how = 0; how < 3; how++) {
+            PlanarOverlay o = new PlanarOverlay();
+            Shapes.line(o, 0, 0, 3, 0, 0, 7, 0);
+            due.yes("turn(0, " + how + ")", o.turn(0, how));
+            Shapes.line(o, 1, tos[how]);
+            due.same("the rim turned by " + how, o, 0, 1);
+            due.yes("turn(0, " + how + ")", o.turn(0, how));
+            Shapes.line(o, 2, 0, 3, 0, 0, 7, 0);
+            due.same("the rim turned back by " + how, o, 0, 2);
         }
     }
 

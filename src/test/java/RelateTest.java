@@ -7,6 +7,7 @@ public final class RelateTest {
         areas();
         areaAndLine();
         linesAndPoints();
+        pointsOfTheRim();
         nothing();
         relateIsRefused();
         partsOfAnArea();
@@ -92,6 +93,17 @@ public final class RelateTest {
         lines("end to the middle", "012001213", 4, 5, 4, 9);
         lines("a point in the middle", "102001003", 4, 5);
         lines("a point at the end", "002101003", 1, 5);
+    }
+
+    private static void pointsOfTheRim() {
+        int[][] points = {{0, 5}, {5, 0}, {12, 5}, {5, 12}, {0, 0}, {12, 12}};
+        for (int[] xy : points) {
+            PlanarOverlay o = new PlanarOverlay();
+            o.point(0, xy[0], xy[1]);
+            relates("a point of the rim and nothing", o, "001000003");
+            o.point(1, xy[0], xy[1]);
+            relates("the same point of the rim", o, "100000003");
+        }
     }
 
     private static void nothing() {

@@ -71,6 +71,7 @@ public final class WayTest {
         due.is("no edge between", o.route(1, at(0, 0), at(1, 0)), -1);
         Shapes.line(o, 2, 0, 0, 12, 0, 12, 12);
         due.is("from corner to corner", o.route(2, 0, 168), 24);
+        due.is("and back again", o.route(2, 168, 0), 24);
         due.is("the lower right corner", o.route(2, 12, 0), 12);
         due.is("not the upper left one", o.route(2, 156, 0), -1);
     }
