@@ -115,6 +115,8 @@ public final class RelateTest {
         PlanarOverlay p = new PlanarOverlay();
         Shapes.line(p, 0, 2, 2, 6, 2, 6, 6, 2, 6, 2, 2);
         relates("a line without ends and nothing", p, "002000003");
+        due.is("a line without ends to itself", p.relate(0, 0), 2 + 3 * 65536);
+        relates("asked again after itself", p, "002000003");
     }
 
     private static void relateIsRefused() {

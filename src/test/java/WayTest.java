@@ -9,6 +9,7 @@ public final class WayTest {
         nearestIsRefused();
         routeAlongLines();
         routeInAreas();
+        routeAfterAnother();
         routeIsRefused();
         pieceAnswers();
         pieceIsRefused();
@@ -88,6 +89,17 @@ public final class WayTest {
         due.is("through a point", o.route(2, at(1, 1), at(5, 5)), 8);
         Shapes.area(o, 2, 7, 7, 8, 8);
         due.is("to another piece", o.route(2, at(5, 5), at(7, 7)), -1);
+    }
+
+    /** A longer way asked for before must not lend its points to a shorter one. */
+    private static void routeAfterAnother() {
+        PlanarOverlay o = new PlanarOverlay();
+        Shapes.line(o, 0, 0, 0, 2, 0);
+        Shapes.line(o, 1, 0, 0, 1, 0);
+        o.point(1, 2, 0);
+        due.is("the longer one", o.route(0, at(1, 0), at(2, 0)), 1);
+        due.is("the shorter one", o.route(1, at(1, 0), at(2, 0)), -1);
+        due.is("the longer one again", o.route(0, at(0, 0), at(2, 0)), 2);
     }
 
     private static void routeIsRefused() {
