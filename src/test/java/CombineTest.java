@@ -1,8 +1,6 @@
 /** Promises 7 and 17: combine and covers. */
 public final class CombineTest {
     private static final Due due = new Due();
-    private static final int[] NO_LAYER = {-1, 6, 7, Integer.MIN_VALUE, Integer.MAX_VALUE};
-    private static final int[] NO_OP = {-1, 4, 5, Integer.MIN_VALUE, Integer.MAX_VALUE};
 
     public static void main(String[] args) {
         twoAreas();
@@ -10,7 +8,6 @@ public final class CombineTest {
         linesAndPoints();
         alongTheRim();
         intoOneOfThem();
-        refused();
         coversAnswers();
         due.end();
     }
@@ -125,26 +122,6 @@ public final class CombineTest {
         }
     }
 
-    private static void refused() {
-        PlanarOverlay o = new PlanarOverlay();
-        Shapes.area(o, 0, 1, 1, 4, 4);
-        Shapes.area(o, 1, 3, 3, 6, 6);
-        o.combine(0, 0, 0, 3);
-        o.combine(0, 1, 1, 4);
-        for (int op : NO_OP) {
-            due.no("combine(" + op + ", 0, 1, 0)", o.combine(op, 0, 1, 0));
-        }
-        for (int layer : NO_LAYER) {
-            due.no("combine(0, " + layer + ", 1, 0)", o.combine(0, layer, 1, 0));
-            due.no("combine(0, 0, " + layer + ", 0)", o.combine(0, 0, layer, 0));
-            due.no("combine(0, 0, 1, " + layer + ")", o.combine(0, 0, 1, layer));
-        }
-        due.same("nothing changed", o, 0, 3);
-        due.same("nothing changed", o, 1, 4);
-        due.is("nothing came", o.measure(2, 4), 0);
-        due.is("nothing came", o.measure(5, 4), 0);
-    }
-
     private static void coversAnswers() {
         PlanarOverlay o = new PlanarOverlay();
         due.yes("nothing covers nothing", o.covers(0, 1));
@@ -167,10 +144,5 @@ public final class CombineTest {
         Shapes.line(o, 4, 1, 1, 2, 1);
         due.no("two points do not cover the edge between them", o.covers(3, 4));
         due.yes("an edge covers its ends", o.covers(4, 3));
-        for (int layer : NO_LAYER) {
-            due.no("covers(" + layer + ", 5)", o.covers(layer, 5));
-            due.no("covers(0, " + layer + ")", o.covers(0, layer));
-            due.no("covers(" + layer + ", " + layer + ")", o.covers(layer, layer));
-        }
     }
 }

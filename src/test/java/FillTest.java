@@ -3,37 +3,12 @@ public final class FillTest {
     private static final Due due = new Due();
 
     public static void main(String[] args) {
-        refused();
         ringsThatCloseThemselves();
         ringsWithoutInside();
         passedTwice();
         crossing();
         ops();
         due.end();
-    }
-
-    private static void refused() {
-        PlanarOverlay o = new PlanarOverlay();
-        due.no("fill with an empty path", o.fill(0, 0));
-        Shapes.path(o, 2, 2, 6, 2, 6, 6, 2, 6);
-        int[] off = {-1, 6, 100, Integer.MIN_VALUE, Integer.MAX_VALUE};
-        for (int layer : off) {
-            due.no("fill(" + layer + ", 0)", o.fill(layer, 0));
-        }
-        int[] noOp = {-1, 4, 9, Integer.MIN_VALUE, Integer.MAX_VALUE};
-        for (int op : noOp) {
-            due.no("fill(0, " + op + ")", o.fill(0, op));
-        }
-        for (int layer = 0; layer < 6; layer++) {
-            due.is("nothing filled on " + layer, o.measure(layer, 4), 0);
-        }
-        Shapes.area(o, 0, 0, 0, 3, 3);
-        o.combine(0, 0, 0, 1);
-        Shapes.path(o, 2, 2, 6, 2, 6, 6);
-        for (int op = 0; op < 4; op++) {
-            due.no("no ring, op " + op, o.fill(0, op));
-        }
-        due.same("no ring, nothing changes", o, 0, 1);
     }
 
     private static void ringsThatCloseThemselves() {

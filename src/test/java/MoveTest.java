@@ -1,18 +1,14 @@
 /** Promises 8 to 10: grow, shrink and turn. */
 public final class MoveTest {
     private static final Due due = new Due();
-    private static final int[] NO_LAYER = {-1, 6, 7, Integer.MIN_VALUE, Integer.MAX_VALUE};
 
     public static void main(String[] args) {
         growing();
         growingAtTheRim();
-        growingIsRefused();
         shrinking();
         shrinkingAtTheRim();
-        shrinkingIsRefused();
         turning();
         turningAtTheRim();
-        turningIsRefused();
         due.end();
     }
 
@@ -56,20 +52,6 @@ public final class MoveTest {
         o.point(2, 0, 12);
         due.yes("grow(2, 11)", o.grow(2, 11));
         due.is("by 11", o.measure(2, 0), 121);
-    }
-
-    private static void growingIsRefused() {
-        PlanarOverlay o = new PlanarOverlay();
-        o.point(0, 4, 5);
-        o.point(1, 4, 5);
-        int[] off = {-1, 13, 14, Integer.MIN_VALUE, Integer.MAX_VALUE, 1 << 30, 1 << 31};
-        for (int r : off) {
-            due.no("grow(0, " + r + ")", o.grow(0, r));
-        }
-        for (int layer : NO_LAYER) {
-            due.no("grow(" + layer + ", 1)", o.grow(layer, 1));
-        }
-        due.same("nothing grew", o, 0, 1);
     }
 
     private static void shrinking() {
@@ -118,20 +100,6 @@ public final class MoveTest {
         due.same("an area in a corner of the square", o, 4, 5);
     }
 
-    private static void shrinkingIsRefused() {
-        PlanarOverlay o = new PlanarOverlay();
-        Shapes.area(o, 0, 0, 0, 12, 12);
-        o.combine(0, 0, 0, 1);
-        int[] off = {-1, 7, 12, Integer.MIN_VALUE, Integer.MAX_VALUE, 1 << 30, 1 << 31};
-        for (int r : off) {
-            due.no("shrink(0, " + r + ")", o.shrink(0, r));
-        }
-        for (int layer : NO_LAYER) {
-            due.no("shrink(" + layer + ", 1)", o.shrink(layer, 1));
-        }
-        due.same("nothing shrank", o, 0, 1);
-    }
-
     private static void turning() {
         int[][] tos = {{11, 2, 8, 2, 8, 6}, {1, 10, 4, 10, 4, 6}, {2, 1, 2, 4, 6, 4}};
         int[][] areas = {{4, 8, 3, 10}, {8, 4, 9, 2}, {8, 8, 10, 9}};
@@ -164,19 +132,5 @@ public final class MoveTest {
             Shapes.line(o, 2, 0, 3, 0, 0, 7, 0);
             due.same("the rim turned back by " + how, o, 0, 2);
         }
-    }
-
-    private static void turningIsRefused() {
-        PlanarOverlay o = new PlanarOverlay();
-        Shapes.line(o, 0, 1, 2, 4, 2);
-        o.combine(0, 0, 0, 1);
-        int[] off = {-1, 3, 4, Integer.MIN_VALUE, Integer.MAX_VALUE};
-        for (int how : off) {
-            due.no("turn(0, " + how + ")", o.turn(0, how));
-        }
-        for (int layer : NO_LAYER) {
-            due.no("turn(" + layer + ", 0)", o.turn(layer, 0));
-        }
-        due.same("nothing turned", o, 0, 1);
     }
 }

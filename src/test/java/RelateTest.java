@@ -1,7 +1,6 @@
 /** Promises 11 and 16: relate and part. */
 public final class RelateTest {
     private static final Due due = new Due();
-    private static final int[] NO_LAYER = {-1, 6, 7, Integer.MIN_VALUE, Integer.MAX_VALUE};
 
     public static void main(String[] args) {
         areas();
@@ -9,12 +8,10 @@ public final class RelateTest {
         linesAndPoints();
         pointsOfTheRim();
         nothing();
-        relateIsRefused();
         partsOfAnArea();
         partsWhereCellsMeet();
         partsOfLines();
         partsAtTheRim();
-        partIsRefused();
         due.end();
     }
 
@@ -119,15 +116,6 @@ public final class RelateTest {
         relates("asked again after itself", p, "002000003");
     }
 
-    private static void relateIsRefused() {
-        PlanarOverlay o = withArea();
-        for (int layer : NO_LAYER) {
-            due.is("relate(" + layer + ", 0)", o.relate(layer, 0), -1);
-            due.is("relate(0, " + layer + ")", o.relate(0, layer), -1);
-            due.is("relate(" + layer + ", " + layer + ")", o.relate(layer, layer), -1);
-        }
-    }
-
     /** Parts of a square of atoms, the lowest row first. */
     private static void parts(String what, PlanarOverlay o, int i, int j, String... rows) {
         for (int row = 0; row < rows.length; row++) {
@@ -188,21 +176,5 @@ public final class RelateTest {
         parts("the whole square", p, 22, 22, "0012", "0012", "1112", "2222");
         due.is("in the middle", p.part(0, 12, 12), 0);
         due.is("on the left", p.part(0, 0, 12), 1);
-    }
-
-    private static void partIsRefused() {
-        PlanarOverlay o = new PlanarOverlay();
-        for (int layer = 0; layer < 6; layer++) {
-            Shapes.area(o, layer, 0, 0, 12, 12);
-        }
-        for (int layer : NO_LAYER) {
-            due.is("part(" + layer + ", 3, 3)", o.part(layer, 3, 3), 2);
-        }
-        int[] off = {-1, -2, 25, 26, 625, Integer.MIN_VALUE, Integer.MAX_VALUE};
-        for (int index : off) {
-            due.is("part(1, " + index + ", 3)", o.part(1, index, 3), 2);
-            due.is("part(1, 3, " + index + ")", o.part(1, 3, index), 2);
-        }
-        due.is("part(5, 24, 24)", o.part(5, 24, 24), 1);
     }
 }

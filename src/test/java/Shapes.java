@@ -27,4 +27,17 @@ final class Shapes {
         path(o, x1 + width, y1 + width, x2 - width, y1 + width, x2 - width, y2 - width, x1 + width, y2 - width);
         o.fill(layer, 2);
     }
+
+    /** An atom with its faces. */
+    static void atom(PlanarOverlay o, int layer, int i, int j) {
+        int x = i / 2;
+        int y = j / 2;
+        if (i % 2 + j % 2 == 0) {
+            o.point(layer, x, y);
+        } else if (i % 2 + j % 2 == 1) {
+            line(o, layer, x, y, x + i % 2, y + j % 2);
+        } else {
+            area(o, layer, x, y, x + 1, y + 1);
+        }
+    }
 }

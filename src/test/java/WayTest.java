@@ -1,18 +1,13 @@
 /** Promises 13 to 15: nearest, route and piece. */
 public final class WayTest {
     private static final Due due = new Due();
-    private static final int[] NO_LAYER = {-1, 6, 7, Integer.MIN_VALUE, Integer.MAX_VALUE};
-    private static final int[] OFF = {-1, 13, 14, Integer.MIN_VALUE, Integer.MAX_VALUE};
 
     public static void main(String[] args) {
         nearestAnswers();
-        nearestIsRefused();
         routeAlongLines();
         routeInAreas();
         routeAfterAnother();
-        routeIsRefused();
         pieceAnswers();
-        pieceIsRefused();
         due.end();
     }
 
@@ -34,20 +29,6 @@ public final class WayTest {
         due.is("to a frame from inside", o.nearest(2, 6, 5), 2);
         due.is("to a frame from outside", o.nearest(2, 12, 0), 2);
         due.is("in a frame", o.nearest(2, 2, 2), 0);
-    }
-
-    private static void nearestIsRefused() {
-        PlanarOverlay o = new PlanarOverlay();
-        due.is("an empty layer", o.nearest(0, 3, 3), -1);
-        o.point(0, 3, 3);
-        o.point(5, 3, 3);
-        for (int layer : NO_LAYER) {
-            due.is("nearest(" + layer + ", 3, 3)", o.nearest(layer, 3, 3), -1);
-        }
-        for (int off : OFF) {
-            due.is("nearest(0, " + off + ", 3)", o.nearest(0, off, 3), -1);
-            due.is("nearest(0, 3, " + off + ")", o.nearest(0, 3, off), -1);
-        }
     }
 
     private static int at(int x, int y) {
@@ -102,28 +83,6 @@ public final class WayTest {
         due.is("the longer one again", o.route(0, at(0, 0), at(2, 0)), 2);
     }
 
-    private static void routeIsRefused() {
-        PlanarOverlay o = new PlanarOverlay();
-        for (int layer = 0; layer < 6; layer++) {
-            Shapes.area(o, layer, 0, 0, 12, 12);
-        }
-        int[] off = {-1, 169, 170, Integer.MIN_VALUE, Integer.MAX_VALUE};
-        for (int n : off) {
-            due.is("route(0, " + n + ", 5)", o.route(0, n, 5), -1);
-            due.is("route(0, 5, " + n + ")", o.route(0, 5, n), -1);
-            due.is("route(0, " + n + ", " + n + ")", o.route(0, n, n), -1);
-        }
-        for (int layer : NO_LAYER) {
-            due.is("route(" + layer + ", 5, 5)", o.route(layer, 5, 5), -1);
-        }
-        PlanarOverlay p = new PlanarOverlay();
-        Shapes.line(p, 0, 3, 3, 6, 3);
-        due.is("from a point that is not in it", p.route(0, at(3, 4), at(3, 3)), -1);
-        due.is("to a point that is not in it", p.route(0, at(3, 3), at(3, 4)), -1);
-        due.is("from a missing point to itself", p.route(0, at(3, 4), at(3, 4)), -1);
-        due.is("on an empty layer", p.route(1, 0, 0), -1);
-    }
-
     private static void pieceAnswers() {
         PlanarOverlay o = new PlanarOverlay();
         Shapes.area(o, 0, 1, 1, 4, 3);
@@ -147,20 +106,5 @@ public final class WayTest {
         due.is("an island in it", o.piece(2, 5, 5), 4);
         Shapes.area(o, 3, 0, 0, 12, 12);
         due.is("the whole square", o.piece(3, 12, 0), 144);
-    }
-
-    private static void pieceIsRefused() {
-        PlanarOverlay o = new PlanarOverlay();
-        due.is("an empty layer", o.piece(0, 3, 3), -1);
-        for (int layer = 0; layer < 6; layer++) {
-            Shapes.area(o, layer, 0, 0, 12, 12);
-        }
-        for (int layer : NO_LAYER) {
-            due.is("piece(" + layer + ", 3, 3)", o.piece(layer, 3, 3), -1);
-        }
-        for (int off : OFF) {
-            due.is("piece(0, " + off + ", 3)", o.piece(0, off, 3), -1);
-            due.is("piece(0, 3, " + off + ")", o.piece(0, 3, off), -1);
-        }
     }
 }
