@@ -15,8 +15,12 @@ final class Edges {
      */
     static final int[] NO_LAYER = {-1, 6, 7, -6, 256, 65536, 989560465, -989560464, MIN, MIN + 1, MAX};
 
-    /** As above; twice the number, the index of an atom, wraps around into the square for some of them. */
-    static final int[] NO_COORDINATE = {-1, 13, 14, -12, 24, 25, 261, 65541, MIN, MIN + 5, MIN / 2 + 5, MAX};
+    /**
+     * As above. Twice the number, the index of an atom, wraps around into the square for some of
+     * them; 50 times 1116691497, the place of a row, to 2.
+     */
+    static final int[] NO_COORDINATE = {
+        -1, 13, 14, -12, 24, 25, 261, 65541, 1116691497, MIN, MIN + 5, MIN / 2 + 5, MAX};
 
     static final int[] NO_OP = {-1, 4, 5, -3, 257, 65536, MIN, MIN + 1, MAX};
 

@@ -17,6 +17,8 @@ public final class MeasureEdgesTest {
         mostHoles();
         holesEndBeforeTheRim();
         rimOpenedAtOneEdge();
+        oneCellMissing();
+        framesOfEachWidth();
         noRingWithoutCells();
         mostRings();
         ringsWhereCellsMeet();
@@ -134,6 +136,35 @@ public final class MeasureEdgesTest {
                 o.combine(2, 0, 1, 0);
                 due.measures("the rim without an edge", o, 0, 0, 47, 0, 2, 1, 0, 0, 0, 0);
             }
+        }
+    }
+
+    /** A hole of one cell; but a notch if it is at the rim, for its open edge has index 0 or 24. */
+    private static void oneCellMissing() {
+        for (int n = 0; n < 144; n++) {
+            int x = n % 12;
+            int y = n / 12;
+            PlanarOverlay o = new PlanarOverlay();
+            Shapes.area(o, 0, 0, 0, 12, 12);
+            Shapes.area(o, 1, x, y, x + 1, y + 1);
+            o.combine(2, 0, 1, 0);
+            String what = "all but the cell at (" + x + ", " + y + ")";
+            int sides = (x % 11 == 0 ? 1 : 0) + (y % 11 == 0 ? 1 : 0);
+            switch (sides) {
+                case 0: due.measures(what, o, 0, 143, 0, 52, 52, 1, 1, 2, 48, 8); break;
+                case 1: due.measures(what, o, 0, 143, 0, 50, 50, 1, 0, 1, 50, 8); break;
+                default: due.measures(what, o, 0, 143, 0, 48, 48, 1, 0, 1, 48, 6); break;
+            }
+        }
+    }
+
+    private static void framesOfEachWidth() {
+        for (int width = 1; width <= 5; width++) {
+            PlanarOverlay o = new PlanarOverlay();
+            Shapes.frame(o, 0, 0, 0, 12, 12, width);
+            int inner = 12 - 2 * width;
+            int around = 48 + 4 * inner;
+            due.measures("a frame along the rim", o, 0, 144 - inner * inner, 0, around, around, 1, 1, 2, 48, 8);
         }
     }
 

@@ -40,9 +40,9 @@ public final class PartEdgesTest {
         }
     }
 
-    /** Next to the square on all sides, and far off; on a full layer between full ones. */
+    /** Next to the square on all sides, and far off: 25 times -1030792151 wraps around to 1. */
     private static void partOutsideOfTheSquare() {
-        int[] off = {-1, 25, 26, -2, -24, 50, 625, -625, 256, 65536, MAX, MIN, MIN + 12, MIN / 2 + 12};
+        int[] off = {-1, 25, 26, -2, -24, 50, 625, -625, 256, 65536, -1030792151, MAX, MIN, MIN + 12, MIN / 2 + 12};
         for (int index : off) {
             for (int n = -1; n <= 25; n++) {
                 PlanarOverlay o = Held.made(Scene.EVERY_ATOM.calls);

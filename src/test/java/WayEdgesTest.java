@@ -216,8 +216,9 @@ public final class WayEdgesTest {
         }
     }
 
+    /** Of 1116691498 and -1116691497 the rows are so far out that their places wrap around into row 0. */
     private static void routeOfNumbersOutOfRange() {
-        int[] off = {-1, 169, 170, -13, -168, 337, 256, 65536, MAX, MIN, MIN + 1, MIN / 2};
+        int[] off = {-1, 169, 170, -13, -168, 337, 256, 65536, 1116691498, -1116691497, MAX, MIN, MIN + 1, MIN / 2};
         for (int number : off) {
             edges.answers("route(0, " + number + ", 0)", -1, o -> o.route(0, number, 0));
             edges.answers("route(5, 168, " + number + ")", -1, o -> o.route(5, 168, number));
